@@ -177,6 +177,14 @@ public final class PromisesTest {
         due(7, "a byte that begins none", x.text(), -100);
         due(7, "the tape is empty then", x.count(6), 0);
         due(7, "an empty tape", x.text(), -100);
+        due(7, "a whole tape", read(x, " ".repeat(157) + "may"), -260);
+        due(7, "a whole tape of one number", read(x, " ".repeat(154) + "may 12"), -260);
+        read(x, "may 1234;");
+        due(7, "what stood behind is gone", read(x, "ma"), -100);
+        read(x, "may 12345;");
+        due(7, "what stood behind is gone", read(x, "may 1234"), -108);
+        read(x, "may 1;pays 1;weighs 1; ;");
+        due(7, "what stood behind is gone", read(x, "may 1;pays 1;weighs 1; "), 1);
     }
 
     /** What an E is, by weighs of a plate of size 5, depth 3. */

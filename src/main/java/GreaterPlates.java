@@ -188,7 +188,7 @@ public final class GreaterPlates {
         return was;
     }
 
-    /** What a part of THE RULE tells of a plate on one of which there may be none (NONE). */
+    /** What a part of THE RULE tells of a plate and a heap; top is NONE where nothing lies. */
     private int worth(int part, int plate, int top, int high, int heap) {
         Rule rule = now.rule >= 0 && now.rule < textCount ? texts[now.rule] : null;
         if (rule == null || !isPlate(plate)) {
