@@ -792,6 +792,16 @@ public final class BoundariesTest {
             for (String word : words) {
                 fault("may 1;pays 1;weighs 1+" + word + ";", 22);
             }
+            String[] first = {"tize", "pop", "weep", "ander", "nigh", "leap", "heat", "tot"};
+            for (String word : first) {
+                fault("may 1;pays 1;weighs " + word + ";", 20);
+            }
+            fault("may 1 ar 1;", 6);
+            fault("may 1 end 1;", 6);
+            fault("may hot 1;", 4);
+            fault("pay 1;", 0);
+            fault("may 1;days 1;", 6);
+            fault("may 1;pays 1;reighs 1;", 13);
             fault("ma 1;", 0);
             fault("mays 1;", 0);
             fault("may 1;pay 1;", 6);
@@ -805,6 +815,12 @@ public final class BoundariesTest {
                 fault("may 1+" + key + ";", 6);
             }
             fault("may 1+not;", 6);
+            for (String key : new String[] {"may", "pays", "weighs", "not"}) {
+                fault("may 1 " + key + " 1;pays 1;weighs 1;", 6);
+            }
+            for (String key : new String[] {"may", "pays", "or", "and", "not", "size"}) {
+                fault("may 1;pays 1;" + key + " 1;", 13);
+            }
         });
         test(7, "a NUMBER that is too long", "ahead of and behind other faults", () -> {
             fault("may 12345 $", 4);
@@ -1085,7 +1101,8 @@ public final class BoundariesTest {
             due("11 and 40: 51", x.by(0, 0), 2);
         });
         test(9, "SULKY: if a NEAR would, or m is 1", "one heap, two heaps", () -> {
-            due("with one heap", heapsOfTwo(5, 0, 60, 59), 2);
+            due("with one heap, though 100 less 89 is not above 50", heapsOfTwo(5, 0, 99, 10), 2);
+            due("with one heap, 100 less 1", heapsOfTwo(5, 0, 60, 59), 2);
             GreaterPlates x = with(98, 99, 10);
             x.layer(5, 0);
             due("100 less 89 is not above 50", x.heapOf(0, 2), 1);
@@ -1381,6 +1398,9 @@ public final class BoundariesTest {
             GreaterPlates y = with(6, 5, 4, 3, 2, 1);
             y.layer(0, 0);
             due("six, each on the one ahead", y.came(0), 1);
+            GreaterPlates z = with(4, 9);
+            z.layer(0, 0);
+            due("the first on none, not on the other", z.came(0), 1);
         });
     }
 
@@ -1397,7 +1417,10 @@ public final class BoundariesTest {
             due("one", with(5).less(0), 0);
             due("of several the first", with(5, 5, 5).less(0), 0);
             due("the last of eight", with(8, 7, 6, 5, 4, 3, 2, 9).less(0), 7);
+            due("one amid", with(9, 3, 5, 8).less(0), 1);
             due("none of them alone", with(5, 6, 2, 3).less(0), NONE);
+            // 1 2 3 9 is the only longest ROW; 4 5 9 is shorter.
+            due("the first of one row", with(4, 5, 1, 2, 3, 9).less(0), 2);
             due("one heap of two", with(5, 4).less(0), NONE);
         });
         test(18, "were PLATES i and i + 1 changed about, FEWEST is less; NONE.", "none, one, the first, the last", () -> {
@@ -1407,6 +1430,12 @@ public final class BoundariesTest {
             due("the least of several", with(1, 2, 3).less(1), 0);
             due("the last two of eight", with(9, 8, 7, 6, 5, 4, 2, 3).less(1), 6);
             due("none", with(5, 5, 5).less(1), NONE);
+            GreaterPlates x = with(4, 5);
+            rule(x, "may size<top;pays 50;weighs 1;");
+            due("FEWEST, not CHEAPEST", x.less(1), 0);
+            GreaterPlates y = with(5, 4);
+            rule(y, "may size<top;pays 50*(top<size);weighs 1;");
+            due("nor so", y.less(1), NONE);
         });
         test(18, sentence, "what is asked changes nothing", () -> {
             // 7 2 8: without 8 one heap does; changed about, 2 7 8 and 7 8 2 take two at least.
@@ -1543,6 +1572,17 @@ public final class BoundariesTest {
             due("none", x.stranger(0), 0);
             x.cell(0, 0, -1);
             due("none", x.stranger(0), 0);
+        });
+        test(21, "LAYERS (bits) who would lay just so", "as they come, whatever was asked ahead", () -> {
+            GreaterPlates x = with(4, 5);
+            x.layer(0, 0);
+            fill(x, 0, 0, 0, 1);
+            due("drawn, changed about", x.drawn(0, 1), 1);
+            due("stranger(0)", x.stranger(0), 1);
+            due("changed about, one heap is enough", x.less(1), 0);
+            due("stranger(0)", x.stranger(0), 1);
+            due("orders(0, 1)", x.orders(0, 1), 1);
+            due("stranger(0)", x.stranger(0), 1);
         });
     }
 
